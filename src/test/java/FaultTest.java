@@ -22,6 +22,7 @@ public final class FaultTest {
         }
         manyStrips();
         fortyPages();
+        faultOfALaterRead();
         faultOfNothing();
         CHECK.end("FaultTest");
     }
@@ -377,6 +378,20 @@ public final class FaultTest {
         CHECK.due("40 pages", both.get(0).read(), 40);
         CHECK.due("the last one's place", both.get(0).of(39, 12), 8 + 54 * 39);
         CHECK.faultDue("41 pages", both.get(1), 2, 40, 0, 0);
+    }
+
+    private static void faultOfALaterRead() {
+        PictureFile x = new Draft(73, 8).directory(8, 1, PLAIN).load();
+        CHECK.faultDue("in the second page", x, 2, 1, 0, 0);
+        x.poke(2, 0);
+        CHECK.faultDue("then at the beginning", x, 1, 0, 0, 0);
+        x.poke(2, 42);
+        x.poke(8 + 2 + 12 * 2 + 8, 7);
+        CHECK.faultDue("then of a strip", x, 9, 0, 273, 0);
+        x.poke(8 + 2 + 12 * 2 + 8, 8);
+        x.poke(8 + 2 + 12 * 4, 0);
+        CHECK.due("then none", x.read(), 1);
+        CHECK.due("nowhere", x.fault(0), PictureFile.NONE);
     }
 
     private static void faultOfNothing() {

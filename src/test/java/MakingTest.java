@@ -22,6 +22,7 @@ public final class MakingTest {
         putLimit();
         putLimitBehindAByteZero();
         closeLimit();
+        closeLimitWithoutLists();
         CHECK.end("MakingTest");
     }
 
@@ -364,13 +365,33 @@ public final class MakingTest {
         CHECK.looks("but another can begin", full, 8, 1, 0, 0, 0, 0, 0, 0);
     }
 
-    /** A page of 512 strips, its first one up to a size, and one of 145 strips not closed yet. */
-    private static PictureFile filledBehindAPage(int size) {
+    /** Pages of one strip, which have no lists, up to the last byte. */
+    private static void closeLimitWithoutLists() {
+        PictureFile x = filledPage(65536 - 10 * 142 - 4238);
+        for (int i = 9; i >= 0; i--) {
+            x.page(1, 1, 1, 1, 1);
+            x.strip();
+            CHECK.due("a page of no bytes", x.close(), 65536 - i * 142);
+        }
+        x.page(1, 1, 1, 1, 1);
+        x.strip();
+        CHECK.stateDue("one page too many", x::close);
+        CHECK.looks("nothing changed", x, 65536, 1, 1, 11, 0, 0, 0, 0);
+    }
+
+    /** A page of 512 strips, its first one up to a size. */
+    private static PictureFile filledPage(int size) {
         PictureFile x = begun(77);
         x.page(1, 512, 1, 1, 1);
         fill(x, size);
         strips(x, 512);
         CHECK.due("the first page", x.close(), size + 512 * 8 + 142);
+        return x;
+    }
+
+    /** Behind such a page one of 145 strips that is not closed yet. */
+    private static PictureFile filledBehindAPage(int size) {
+        PictureFile x = filledPage(size);
         x.page(1, 145, 1, 1, 1);
         strips(x, 145);
         return x;
