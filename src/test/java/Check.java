@@ -1,13 +1,37 @@
+import java.util.function.BooleanSupplier;
+
 /** Counts and prints the answers that are not as due. */
 final class Check {
     private int checked;
     private int wrong;
+    private int sentences;
+    private String about = "";
+
+    /** A test of its own for one sentence of the document; its words name what does not hold. */
+    void sentence(String words, Runnable test) {
+        int before = checked;
+        sentences++;
+        about = "\"" + words + "\": ";
+        try {
+            test.run();
+        } catch (RuntimeException e) {
+            fail("the test met " + e);
+        }
+        if (checked == before) {
+            fail("nothing was tested");
+        }
+        about = "";
+    }
+
+    private void fail(String what) {
+        wrong++;
+        System.out.println(about + what);
+    }
 
     void due(String what, long got, long want) {
         checked++;
         if (got != want) {
-            wrong++;
-            System.out.println(what + " answered " + got + ", due is " + want);
+            fail(what + " answered " + got + ", due is " + want);
         }
     }
 
@@ -18,8 +42,7 @@ final class Check {
     void dueText(String what, String got, String want) {
         checked++;
         if (!got.equals(want)) {
-            wrong++;
-            System.out.println(what + " answered " + got + ", due is " + want);
+            fail(what + " answered " + got + ", due is " + want);
         }
     }
 
@@ -45,6 +68,32 @@ final class Check {
         dueThrow(what, IndexOutOfBoundsException.class, call);
     }
 
+    /** The call answers false, and changes nothing. */
+    void refused(String what, PictureFile x, BooleanSupplier call) {
+        String before = Shot.of(x);
+        due(what, call.getAsBoolean(), false);
+        dueText(what + " left", Shot.of(x), before);
+    }
+
+    /** The call throws, and changes nothing. */
+    void stateRefused(String what, PictureFile x, Runnable call) {
+        String before = Shot.of(x);
+        stateDue(what, call);
+        dueText(what + " left", Shot.of(x), before);
+    }
+
+    void argumentRefused(String what, PictureFile x, Runnable call) {
+        String before = Shot.of(x);
+        argumentDue(what, call);
+        dueText(what + " left", Shot.of(x), before);
+    }
+
+    void indexRefused(String what, PictureFile x, Runnable call) {
+        String before = Shot.of(x);
+        indexDue(what, call);
+        dueText(what + " left", Shot.of(x), before);
+    }
+
     /** look(0) to look(7), side by side. */
     void looks(String what, PictureFile x, int... want) {
         for (int i = 0; i < want.length; i++) {
@@ -64,7 +113,9 @@ final class Check {
     }
 
     void end(String name) {
-        System.out.println(name + ": " + checked + " answers, " + wrong + " not as due");
+        System.out.println(name + ": " + checked + " answers"
+                + (sentences == 0 ? "" : " for " + sentences + " sentences")
+                + ", " + wrong + " not as due");
         if (wrong != 0 || checked == 0) {
             System.exit(1);
         }
