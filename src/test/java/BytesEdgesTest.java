@@ -18,7 +18,7 @@ public final class BytesEdgesTest {
     // ---- promise 1
 
     private static void aNewObject() {
-        CHECK.sentence("1: An empty file", () -> {
+        CHECK.sentence("promise 1: An empty file", () -> {
             PictureFile x = new PictureFile();
             CHECK.due("its bytes", x.look(0), 0);
             CHECK.due("bytes(0)", x.bytes(0), 0);
@@ -27,7 +27,7 @@ public final class BytesEdgesTest {
             CHECK.due("cut(0)", x.cut(0), true);
             CHECK.faultDue("fewer than 8 bytes", x, 1, 0, 0, 0);
         });
-        CHECK.sentence("1: nothing is being made", () -> {
+        CHECK.sentence("promise 1: nothing is being made", () -> {
             PictureFile x = new PictureFile();
             CHECK.looks("a new object", x, 0, 0, 0, 0, 0, 0);
             CHECK.stateRefused("page", x, () -> x.page(1, 1, 1, 1, 1));
@@ -37,7 +37,7 @@ public final class BytesEdgesTest {
             CHECK.stateRefused("end", x, x::end);
             CHECK.due("give", x.give(1, 1), true);
         });
-        CHECK.sentence("1: nothing was read", () -> {
+        CHECK.sentence("promise 1: nothing was read", () -> {
             PictureFile x = new PictureFile();
             CHECK.due("pages", x.look(6), 0);
             CHECK.due("order", x.look(7), 0);
@@ -53,7 +53,7 @@ public final class BytesEdgesTest {
     // ---- promise 2
 
     private static void give() {
-        CHECK.sentence("2: The n lowest bytes of part, the highest first", () -> {
+        CHECK.sentence("promise 2: The n lowest bytes of part, the highest first", () -> {
             for (int n = 1; n <= 8; n++) {
                 PictureFile x = new PictureFile();
                 CHECK.due("give " + n, x.give(PART, n), true);
@@ -61,7 +61,7 @@ public final class BytesEdgesTest {
                 CHECK.due("the lowest " + n, x.bytes(0), PART << (64 - 8 * n));
             }
         });
-        CHECK.sentence("2: come behind the file", () -> {
+        CHECK.sentence("promise 2: come behind the file", () -> {
             PictureFile x = new PictureFile();
             x.give(0x01, 1);
             x.give(PART, 8);
@@ -70,7 +70,7 @@ public final class BytesEdgesTest {
             CHECK.due("bytes(1)", x.bytes(1), 0x8802000000000000L);
             CHECK.due("ten", x.look(0), 10);
         });
-        CHECK.sentence("2: false if n is not 1 .. 8", () -> {
+        CHECK.sentence("promise 2: false if n is not 1 .. 8", () -> {
             PictureFile x = new PictureFile();
             x.give(5, 3);
             for (int n : new int[] {0, 9, -1, -8, 16, 257, 264, LEAST, LEAST + 1, MOST}) {
@@ -79,8 +79,8 @@ public final class BytesEdgesTest {
             CHECK.due("n = 1", x.give(-1, 1), true);
             CHECK.due("n = 8", x.give(-1, 8), true);
         });
-        CHECK.sentence("2: there would be more than 65536", BytesEdgesTest::giveUpToTheLastByte);
-        CHECK.sentence("2: false if .. a file is being made", () -> {
+        CHECK.sentence("promise 2: there would be more than 65536", BytesEdgesTest::giveUpToTheLastByte);
+        CHECK.sentence("promise 2: false if .. a file is being made", () -> {
             for (int order : ORDERS) {
                 for (Step s : Step.values()) {
                     PictureFile x = s.reach(order);
@@ -120,7 +120,7 @@ public final class BytesEdgesTest {
     // ---- promise 3
 
     private static void poke() {
-        CHECK.sentence("3: Byte k of the file becomes v & 255", () -> {
+        CHECK.sentence("promise 3: Byte k of the file becomes v & 255", () -> {
             int[] values = {0, 1, 127, 128, 255, 256, 511, -1, -128, -256, LEAST, MOST};
             for (int v : values) {
                 PictureFile x = filled(16);
@@ -132,7 +132,7 @@ public final class BytesEdgesTest {
                 CHECK.due("as many as before", x.look(0), 16);
             }
         });
-        CHECK.sentence("3: false if there is none such", () -> {
+        CHECK.sentence("promise 3: false if there is none such", () -> {
             PictureFile x = filled(16);
             for (int k : new int[] {-1, 16, 17, 65535, 65536, LEAST, MOST, LEAST + 3}) {
                 CHECK.refused("byte " + k + " of 16", x, () -> x.poke(k, 1));
@@ -145,7 +145,7 @@ public final class BytesEdgesTest {
             CHECK.due("the last byte of all", full.poke(65535, 0), true);
             CHECK.due("poked", full.bytes(8191), -256);
         });
-        CHECK.sentence("3: false if .. a file is being made", () -> {
+        CHECK.sentence("promise 3: false if .. a file is being made", () -> {
             for (Step s : Step.values()) {
                 PictureFile x = s.reach(77);
                 if (s.making()) {
@@ -161,19 +161,20 @@ public final class BytesEdgesTest {
     // ---- promise 4
 
     private static void cut() {
-        CHECK.sentence("4: The file's first n bytes stay", () -> {
+        CHECK.sentence("promise 4: The file's first n bytes stay", () -> {
             for (int n = 0; n <= 8; n++) {
                 PictureFile x = new PictureFile();
                 x.give(PART, 8);
                 CHECK.due("cut(" + n + ")", x.cut(n), true);
                 CHECK.due("so many", x.look(0), n);
-                CHECK.due("the first ones", x.bytes(0), n == 0 ? 0 : PART >> 64 - 8 * n << 64 - 8 * n);
+                int gone = 64 - 8 * n;
+                long first = n == 0 ? 0 : PART >> gone << gone;
+                CHECK.due("the first ones", x.bytes(0), first);
                 x.give(0, 1);
-                CHECK.due("what was cut stays away", x.bytes(0),
-                        n == 0 ? 0 : n == 8 ? PART : PART >> 64 - 8 * n << 64 - 8 * n);
+                CHECK.due("what was cut stays away", x.bytes(0), first);
             }
         });
-        CHECK.sentence("4: false if it has not so many", () -> {
+        CHECK.sentence("promise 4: false if it has not so many", () -> {
             PictureFile x = new PictureFile();
             CHECK.refused("one of none", x, () -> x.cut(1));
             x.give(PART, 8);
@@ -187,7 +188,7 @@ public final class BytesEdgesTest {
             CHECK.refused("65537", full, () -> full.cut(65537));
             CHECK.due("65536", full.cut(65536), true);
         });
-        CHECK.sentence("4: n is below 0", () -> {
+        CHECK.sentence("promise 4: n is below 0", () -> {
             PictureFile x = new PictureFile();
             CHECK.refused("-1 of none", x, () -> x.cut(-1));
             x.give(PART, 8);
@@ -197,7 +198,7 @@ public final class BytesEdgesTest {
             CHECK.due("cut(0)", x.cut(0), true);
             CHECK.due("none stays", x.look(0), 0);
         });
-        CHECK.sentence("4: false if .. a file is being made", () -> {
+        CHECK.sentence("promise 4: false if .. a file is being made", () -> {
             for (Step s : Step.values()) {
                 PictureFile x = s.reach(73);
                 if (s.making()) {
@@ -214,7 +215,8 @@ public final class BytesEdgesTest {
     // ---- promise 5
 
     private static void bytes() {
-        CHECK.sentence("5: Eight bytes 8 * k .. 8 * k + 7 of the file, the first one highest", () -> {
+        CHECK.sentence("promise 5: Eight bytes 8 * k .. 8 * k + 7 of the file, the first one highest",
+                () -> {
             PictureFile x = new PictureFile();
             for (int i = 0; i < 24; i++) {
                 x.give(i + 1, 1);
@@ -225,7 +227,7 @@ public final class BytesEdgesTest {
             PictureFile full = filled(65536);
             CHECK.due("the last eight of all", full.bytes(8191), -1);
         });
-        CHECK.sentence("5: 0 where there are none", () -> {
+        CHECK.sentence("promise 5: 0 where there are none", () -> {
             for (int n = 0; n < 8; n++) {
                 PictureFile x = filled(8 + n);
                 CHECK.due(n + " of eight", x.bytes(1), n == 0 ? 0 : -1L << (64 - 8 * n));

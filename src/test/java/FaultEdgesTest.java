@@ -74,15 +74,16 @@ public final class FaultEdgesTest {
     // ---- 1
 
     private static void fault1() {
-        CHECK.sentence("1: fewer than 8 bytes", () -> {
+        CHECK.sentence("fault 1: fewer than 8 bytes", () -> {
             for (int order : ORDERS) {
                 for (int n = 0; n < 8; n++) {
-                    CHECK.faultDue(n + " bytes", file(order, 0, PLAIN).length(n).load(), 1, 0, 0, 0);
+                    Draft d = file(order, 0, PLAIN).length(n);
+                    CHECK.faultDue(n + " bytes", d.load(), 1, 0, 0, 0);
                 }
                 CHECK.faultDue("8 bytes", file(order, 0, PLAIN).length(8).load(), 2, 0, 0, 0);
             }
         });
-        CHECK.sentence("1: or the two orders .. not as said", () -> {
+        CHECK.sentence("fault 1: or the two orders .. not as said", () -> {
             int[][] wrong = {{73, 77}, {77, 73}, {0, 0}, {72, 72}, {74, 74}, {76, 76}, {78, 78},
                 {73, 0}, {0, 73}, {77, 0}, {0, 77}, {73, 74}, {77, 78}, {201, 201}};
             for (int order : ORDERS) {
@@ -93,7 +94,7 @@ public final class FaultEdgesTest {
                 right("the order twice", file(order, 0, PLAIN), 1);
             }
         });
-        CHECK.sentence("1: or 42 not as said", () -> {
+        CHECK.sentence("fault 1: or 42 not as said", () -> {
             for (int order : ORDERS) {
                 for (int v : new int[] {0, 41, 43, 42 << 8, 42 + 256, 65535}) {
                     Draft d = file(order, 0, PLAIN).at(2, v, 2);
@@ -114,17 +115,18 @@ public final class FaultEdgesTest {
     }
 
     private static void fault2() {
-        CHECK.sentence("2: (of the first one also if it is 0)", () -> {
+        CHECK.sentence("fault 2: (of the first one also if it is 0)", () -> {
             for (int order : ORDERS) {
                 CHECK.faultDue("0", linked(order, 0, 0).load(), 2, 0, 0, 0);
                 right("0 for the last one", linked(order, 1, 0), 1);
                 right("0 for the last one", linked(order, 3, 0), 3);
             }
         });
-        CHECK.sentence("2: the place of a directory .. is less than 8", () -> {
+        CHECK.sentence("fault 2: the place of a directory .. is less than 8", () -> {
             everywhere((order, ahead) -> {
                 for (int place = 1; place < 8; place++) {
-                    CHECK.faultDue("at " + place, linked(order, ahead, place).load(), 2, ahead, 0, 0);
+                    Draft d = linked(order, ahead, place);
+                    CHECK.faultDue("at " + place, d.load(), 2, ahead, 0, 0);
                 }
             });
             for (int order : ORDERS) {
@@ -132,18 +134,18 @@ public final class FaultEdgesTest {
                 CHECK.faultDue("at 2, else right", directoryAt2(order).load(), 2, 0, 0, 0);
             }
         });
-        CHECK.sentence("2: or odd", () -> everywhere((order, ahead) -> {
+        CHECK.sentence("fault 2: or odd", () -> everywhere((order, ahead) -> {
             int behind = 8 + PLAIN_BYTES * ahead;
             for (int place : new int[] {behind + 1, AT - 1, AT + 1, LENGTH - PLAIN_BYTES - 1}) {
                 Draft d = linked(order, ahead, place).directory(place, 0, PLAIN);
                 CHECK.faultDue("at " + place, d.load(), 2, ahead, 0, 0);
             }
         }));
-        CHECK.sentence("2: it has no entries", () -> everywhere((order, ahead) -> {
+        CHECK.sentence("fault 2: it has no entries", () -> everywhere((order, ahead) -> {
             Draft d = file(order, ahead, PLAIN).at(AT, 0, 2);
             CHECK.faultDue("none", d.load(), 2, ahead, 0, 0);
         }));
-        CHECK.sentence("2: or it, with its next place, does not lie in the file",
+        CHECK.sentence("fault 2: or it, with its next place, does not lie in the file",
                 FaultEdgesTest::directoryInTheFile);
     }
 
@@ -162,7 +164,8 @@ public final class FaultEdgesTest {
     private static void directoryInTheFile() {
         everywhere((order, ahead) -> {
             for (int n = AT; n < AT + PLAIN_BYTES; n++) {
-                CHECK.faultDue("cut at " + n, file(order, ahead, PLAIN).length(n).load(), 2, ahead, 0, 0);
+                Draft d = file(order, ahead, PLAIN).length(n);
+                CHECK.faultDue("cut at " + n, d.load(), 2, ahead, 0, 0);
             }
             right("not cut", file(order, ahead, PLAIN).length(AT + PLAIN_BYTES), ahead + 1);
             Draft more = file(order, ahead, PLAIN).length(AT + PLAIN_BYTES).at(AT, 5, 2);
@@ -178,7 +181,7 @@ public final class FaultEdgesTest {
     }
 
     private static void pagesAtMost() {
-        CHECK.sentence("2: or there would be more than 40 pages", () -> {
+        CHECK.sentence("fault 2: or there would be more than 40 pages", () -> {
             for (int order : ORDERS) {
                 right("40 pages", chain(order, 40), 40);
                 CHECK.faultDue("41 pages", chain(order, 41).load(), 2, 40, 0, 0);
@@ -205,11 +208,11 @@ public final class FaultEdgesTest {
     // ---- 3
 
     private static void fault3() {
-        CHECK.sentence("3: a tag that is not above the one before", () -> {
+        CHECK.sentence("fault 3: a tag that is not above the one before", () -> {
             long[] tags = {256, 257, 273, 279};
             for (int i = 1; i < 4; i++) {
                 for (long less = 0; less < 3; less++) {
-                    long[][] e = {PLAIN[0].clone(), PLAIN[1].clone(), PLAIN[2].clone(), PLAIN[3].clone()};
+                    long[][] e = Draft.plain(8, 0);
                     e[i][0] = tags[i - 1] - less;
                     faulty("entry " + i + ", " + less + " below", 3, (int) e[i][0], e);
                 }
@@ -219,7 +222,8 @@ public final class FaultEdgesTest {
             faulty("without a meaning", 3, 299, PLAIN[0], PLAIN[1], PLAIN[2], PLAIN[3],
                     Draft.one(300, 3, 0), Draft.one(299, 3, 0));
             fine("0 ahead of all", with(Draft.one(0, 3, 0)));
-            fine("each one above", Draft.with(with(Draft.one(32767, 3, 0)), Draft.one(32768, 3, 0)));
+            fine("each one above",
+                    Draft.with(with(Draft.one(32767, 3, 0)), Draft.one(32768, 3, 0)));
             fine("65535 behind all", with(Draft.one(65535, 3, 0)));
         });
     }
@@ -234,7 +238,7 @@ public final class FaultEdgesTest {
     }
 
     private static void fault4() {
-        CHECK.sentence("4: a TYPE that it can not have", () -> {
+        CHECK.sentence("fault 4: a TYPE that it can not have", () -> {
             for (int tag : new int[] {256, 257, 259, 262, 266, 273, 278, 279, 282, 283, 296}) {
                 for (int type : new int[] {0, 1, 2, 3, 4, 5, 6, 259, 3 << 8, 65535}) {
                     int widest = typeOf(tag);
@@ -246,14 +250,14 @@ public final class FaultEdgesTest {
             fine("SHORT for LONG", Draft.one(256, SHORT, 1), Draft.one(257, SHORT, 1),
                     Draft.one(273, SHORT, 8), Draft.one(278, SHORT, 1), Draft.one(279, SHORT, 0));
         });
-        CHECK.sentence("4: a COUNT that is 0", () -> {
+        CHECK.sentence("fault 4: a COUNT that is 0", () -> {
             for (int tag : ONES) {
                 faulty(tag + " of none", 4, tag, with(Draft.many(tag, typeOf(tag), 0, 8)));
             }
             faulty("273 of none", 4, 273, with(Draft.many(273, LONG, 0, 8)));
             faulty("279 of none", 4, 279, with(Draft.many(279, LONG, 0, 8)));
         });
-        CHECK.sentence("4: above 4096", () -> {
+        CHECK.sentence("fault 4: above 4096", () -> {
             for (int tag : new int[] {273, 279}) {
                 for (long n : new long[] {4097, 8192, 65536, 65537, 1L << 30, 1L << 31, WIDEST}) {
                     faulty(tag + " of " + n, 4, tag, with(Draft.many(tag, SHORT, n, 8)));
@@ -261,7 +265,7 @@ public final class FaultEdgesTest {
                 faulty(tag + " of 4096", 5, tag, with(Draft.many(tag, SHORT, 4096, 8)));
             }
         });
-        CHECK.sentence("4: or not 1 where it must be 1", () -> {
+        CHECK.sentence("fault 4: or not 1 where it must be 1", () -> {
             for (int tag : ONES) {
                 for (long n : new long[] {2, 3, 4096, 65537, WIDEST}) {
                     faulty(tag + " of " + n, 4, tag, with(Draft.many(tag, typeOf(tag), n, 8)));
@@ -269,7 +273,7 @@ public final class FaultEdgesTest {
             }
             faulty("two SHORTs, though they fit", 4, 256, with(Draft.many(256, SHORT, 2, 9)));
         });
-        CHECK.sentence("4: For those that have a meaning", () -> {
+        CHECK.sentence("fault 4: For those that have a meaning", () -> {
             int[] others = {0, 1, 254, 255, 258, 260, 261, 263, 265, 267, 272, 274, 277, 280, 281,
                 284, 295, 297, 512 + 256, 32768, 65535};
             for (int tag : others) {
@@ -282,15 +286,17 @@ public final class FaultEdgesTest {
     // ---- 5
 
     private static void fault5() {
-        CHECK.sentence("5: what it says does not lie in the file", () -> {
+        CHECK.sentence("fault 5: what it says does not lie in the file", () -> {
             long[][] lists = {{273, LONG, 2}, {273, SHORT, 3}, {279, LONG, 2}, {279, SHORT, 3},
                 {273, LONG, 16}, {279, SHORT, 31}};
             for (long[] l : lists) {
-                long size = l[2] * (l[1] == SHORT ? 2 : 4);
-                outside((int) l[0], (int) l[1], l[2], size);
                 int tag = (int) l[0];
-                faulty("up to the last byte", 8, tag, with(Draft.many(tag, (int) l[1], l[2], LENGTH - size)));
-                faulty("at 0", 8, tag, with(Draft.many(tag, (int) l[1], l[2], 0)));
+                int type = (int) l[1];
+                long size = l[2] * (type == SHORT ? 2 : 4);
+                outside(tag, type, l[2], size);
+                faulty("up to the last byte", 8, tag,
+                        with(Draft.many(tag, type, l[2], LENGTH - size)));
+                faulty("at 0", 8, tag, with(Draft.many(tag, type, l[2], 0)));
             }
             for (int tag : new int[] {282, 283}) {
                 outside(tag, 5, 1, 8);
@@ -318,14 +324,14 @@ public final class FaultEdgesTest {
     // ---- 6
 
     private static void fault6() {
-        CHECK.sentence("6: 256, 257, 273 or 279 is not there", () -> {
+        CHECK.sentence("fault 6: 256, 257, 273 or 279 is not there", () -> {
             for (int tag : new int[] {256, 257, 273, 279}) {
                 faulty("without " + tag, 6, tag, Draft.without(PLAIN, tag));
                 fine("with " + tag, PLAIN);
             }
             faulty("one entry of no meaning", 6, 256, new long[] {300, 3, 1, 0});
         });
-        CHECK.sentence("13: 6: the one that is missing, the least", () -> {
+        CHECK.sentence("promise 13: 6: the one that is missing, the least", () -> {
             int[] tags = {256, 257, 273, 279};
             for (int some = 1; some < 15; some++) {
                 long[][] e = with(Draft.one(300, SHORT, 0));
@@ -349,7 +355,7 @@ public final class FaultEdgesTest {
 
     private static void fault7() {
         for (int tag : new int[] {256, 257}) {
-            CHECK.sentence("7: WIDTH or HEIGHT is 0 or above 20000: " + tag, () -> {
+            CHECK.sentence("fault 7: WIDTH or HEIGHT is 0 or above 20000: " + tag, () -> {
                 for (long v : new long[] {0, 20001, 65536, 65537, 1L << 31, WIDEST}) {
                     faulty("LONG " + v, 7, tag, with(Draft.one(tag, LONG, v)));
                 }
@@ -362,11 +368,11 @@ public final class FaultEdgesTest {
                 }
             });
         }
-        CHECK.sentence("7: CODE is there and neither 1 nor 4", () -> values(259, 1, 4));
-        CHECK.sentence("7: INK not 0 or 1", () -> values(262, 0, 1));
-        CHECK.sentence("7: FILL not 1 or 2", () -> values(266, 1, 2));
-        CHECK.sentence("7: UNIT not 1 .. 3", () -> values(296, 1, 2, 3));
-        CHECK.sentence("7: ROWS 0", () -> {
+        CHECK.sentence("fault 7: CODE is there and neither 1 nor 4", () -> values(259, 1, 4));
+        CHECK.sentence("fault 7: INK not 0 or 1", () -> values(262, 0, 1));
+        CHECK.sentence("fault 7: FILL not 1 or 2", () -> values(266, 1, 2));
+        CHECK.sentence("fault 7: UNIT not 1 .. 3", () -> values(296, 1, 2, 3));
+        CHECK.sentence("fault 7: ROWS 0", () -> {
             faulty("LONG 0", 7, 278, with(Draft.one(278, LONG, 0)));
             faulty("SHORT 0", 7, 278, with(Draft.one(278, SHORT, 0)));
             for (long v : new long[] {4, 5, 65536, 1L << 31, WIDEST}) {
@@ -390,19 +396,22 @@ public final class FaultEdgesTest {
         }
     }
 
-    private static void finenessOf7() {
-        CHECK.sentence("7: a FINENESS whose second number is 0", () -> everywhere((order, ahead) -> {
-            for (int tag : new int[] {282, 283}) {
-                Draft d = file(order, ahead, with(Draft.one(tag, 5, LENGTH - 8)));
-                for (long first : new long[] {0, 1, WIDEST}) {
-                    d.at(LENGTH - 8, first, 4).at(LENGTH - 4, 0, 4);
-                    CHECK.faultDue(first + " and 0", d.load(), 7, ahead, tag, 0);
-                    right(first + " and 1", d.at(LENGTH - 4, 1, 4), ahead + 1);
-                    right(first + " and the most", d.at(LENGTH - 4, WIDEST, 4), ahead + 1);
-                }
+    private static void secondNumbers(int order, int ahead) {
+        for (int tag : new int[] {282, 283}) {
+            Draft d = file(order, ahead, with(Draft.one(tag, 5, LENGTH - 8)));
+            for (long first : new long[] {0, 1, WIDEST}) {
+                d.at(LENGTH - 8, first, 4).at(LENGTH - 4, 0, 4);
+                CHECK.faultDue(first + " and 0", d.load(), 7, ahead, tag, 0);
+                right(first + " and 1", d.at(LENGTH - 4, 1, 4), ahead + 1);
+                right(first + " and the most", d.at(LENGTH - 4, WIDEST, 4), ahead + 1);
             }
-        }));
-        CHECK.sentence("13: 7: .. the first in the order in which 7 names them (296 ahead of 282,"
+        }
+    }
+
+    private static void finenessOf7() {
+        CHECK.sentence("fault 7: a FINENESS whose second number is 0",
+                () -> everywhere(FaultEdgesTest::secondNumbers));
+        CHECK.sentence("promise 13: 7: .. the first in the order in which 7 names them (296 ahead of 282,"
                 + " 283)", () -> {
             int[] tags = {256, 257, 259, 262, 266, 278, 296, 282, 283};
             long[] wrong = {0, 20001, 2, 2, 0, 0, 4, LENGTH - 8, LENGTH - 8};
@@ -425,23 +434,24 @@ public final class FaultEdgesTest {
     }
 
     private static void fault8() {
-        CHECK.sentence("8: the COUNT of PLACES .. is not that of the strips", () -> {
+        CHECK.sentence("fault 8: the COUNT of PLACES .. is not that of the strips", () -> {
             long[][] wrong = {{5, 2, 2, 3}, {5, 2, 4, 3}, {5, 2, 2, 2}, {5, 2, 4, 4}, {4, 4, 2, 1},
                 {20000, 1, 31, 31}, {1, WIDEST, 2, 1}, {20000, 19999, 1, 2}, {20000, 20000, 2, 2}};
             for (long[] w : wrong) {
                 faulty(w[0] + " by " + w[1] + ": " + w[2], 8, 273, strips(w[0], w[1], w[2], w[3]));
             }
         });
-        CHECK.sentence("8: the COUNT of .. LENGTHS is not that of the strips", () -> {
-            long[][] wrong = {{5, 2, 3, 2}, {5, 2, 3, 4}, {5, 5, 1, 2}, {5, 4, 2, 1}, {31, 1, 31, 30},
-                {1, WIDEST, 1, 2}};
+        CHECK.sentence("fault 8: the COUNT of .. LENGTHS is not that of the strips", () -> {
+            long[][] wrong = {{5, 2, 3, 2}, {5, 2, 3, 4}, {5, 5, 1, 2}, {5, 4, 2, 1},
+                {31, 1, 31, 30}, {1, WIDEST, 1, 2}};
             for (long[] w : wrong) {
                 faulty(w[0] + " by " + w[1] + ": " + w[3], 8, 279, strips(w[0], w[1], w[2], w[3]));
             }
         });
         CHECK.sentence("the number of STRIPS, (HEIGHT + ROWS - 1) / ROWS", () -> {
-            long[][] pages = {{1, 1, 1}, {5, 5, 1}, {5, 4, 2}, {5, 3, 2}, {5, 2, 3}, {6, 2, 3}, {5, 1, 5},
-                {5, 6, 1}, {5, WIDEST, 1}, {20000, WIDEST, 1}, {20000, 20000, 1}, {20000, 19999, 2},
+            long[][] pages = {{1, 1, 1}, {5, 5, 1}, {5, 4, 2}, {5, 3, 2}, {5, 2, 3}, {6, 2, 3},
+                {5, 1, 5}, {5, 6, 1}, {5, WIDEST, 1}, {20000, WIDEST, 1}, {20000, 20000, 1},
+                {20000, 19999, 2},
                 {20000, 10000, 2}, {20000, 9999, 3}};
             for (long[] p : pages) {
                 everywhere((order, ahead) -> stripsDue(order, ahead, p));
@@ -463,7 +473,7 @@ public final class FaultEdgesTest {
     }
 
     private static void stripsAtMost() {
-        CHECK.sentence("8: or those of this page and the ones before it are more than 8192", () -> {
+        CHECK.sentence("fault 8: or those of this page and the ones before it are more than 8192", () -> {
             for (int order : ORDERS) {
                 right("2 pages of 4096", pagesOf(order, 4096, 4096), 2);
                 CHECK.faultDue("and 1 more", pagesOf(order, 4096, 4096, 1).load(), 8, 2, 278, 0);
@@ -479,7 +489,7 @@ public final class FaultEdgesTest {
             ring.at(8 + 2 + 12 * 5, 8, 4);
             CHECK.faultDue("a ring of 205", ring.load(), 8, 39, 278, 0);
         });
-        CHECK.sentence("13: 8: 273, or 279 if 273 is right, or 278 if both are", () -> {
+        CHECK.sentence("promise 13: 8: 273, or 279 if 273 is right, or 278 if both are", () -> {
             for (int order : ORDERS) {
                 Draft both = pagesOf(order, 4096, 4096, 4);
                 CHECK.faultDue("278", both.load(), 8, 2, 278, 0);
@@ -509,7 +519,8 @@ public final class FaultEdgesTest {
                     Draft.many(273, SHORT, n, 400), Draft.one(278, LONG, 1),
                     Draft.many(279, SHORT, n, 400 + 8192));
             if (n <= 2) {
-                d.at(entryAt(i, 2) + 8, 8, 2).at(entryAt(i, 2) + 10, 8, 2).at(entryAt(i, 4) + 8, 0, 4);
+                d.at(entryAt(i, 2) + 8, 8, 2).at(entryAt(i, 2) + 10, 8, 2);
+                d.at(entryAt(i, 4) + 8, 0, 4);
             }
         }
         d.length(400 + 16384);
@@ -522,7 +533,7 @@ public final class FaultEdgesTest {
     // ---- 9
 
     private static void fault9() {
-        CHECK.sentence("9: a strip whose place is below 8", () -> {
+        CHECK.sentence("fault 9: a strip whose place is below 8", () -> {
             for (long place = 0; place < 8; place++) {
                 faulty("at " + place, 9, 273, Draft.plain(place, 0));
                 faulty("at " + place, 9, 273, Draft.plain(place, 1));
@@ -530,25 +541,25 @@ public final class FaultEdgesTest {
             fine("at 8", Draft.plain(8, 0));
             fine("at 9", Draft.plain(9, 1));
         });
-        CHECK.sentence("9: or that does not lie in the file", () -> {
-            long[][] wrong = {{8, LENGTH - 7}, {LENGTH - 1, 2}, {LENGTH, 1}, {LENGTH + 1, 1}, {8, WIDEST},
-                {WIDEST, 1}, {WIDEST, WIDEST}, {1L << 31, 1L << 31}, {WIDEST - 7, 16}, {16, WIDEST - 15},
-                {(1L << 31) + 8, 1}, {8, 1L << 31}};
+        CHECK.sentence("fault 9: or that does not lie in the file", () -> {
+            long[][] wrong = {{8, LENGTH - 7}, {LENGTH - 1, 2}, {LENGTH, 1}, {LENGTH + 1, 1},
+                {8, WIDEST}, {WIDEST, 1}, {WIDEST, WIDEST}, {1L << 31, 1L << 31},
+                {WIDEST - 7, 16}, {16, WIDEST - 15}, {(1L << 31) + 8, 1}, {8, 1L << 31}};
             for (long[] w : wrong) {
                 faulty(w[0] + " and " + w[1], 9, 273, Draft.plain(w[0], w[1]));
             }
             fine("all behind the head", Draft.plain(8, LENGTH - 8));
             fine("the last byte", Draft.plain(LENGTH - 1, 1));
         });
-        CHECK.sentence("9: (with a LENGTH 0 it does where its place is not above the file's length)",
-                () -> {
+        CHECK.sentence("fault 9: (with a LENGTH 0 it does where its place is not above the file's"
+                + " length)", () -> {
             fine("at its length", Draft.plain(LENGTH, 0));
             fine("one ahead", Draft.plain(LENGTH - 1, 0));
             for (long place : new long[] {LENGTH + 1, 65536, 1L << 31, WIDEST}) {
                 faulty("at " + place, 9, 273, Draft.plain(place, 0));
             }
         });
-        CHECK.sentence("13: 2: for 9 the strip", () -> everywhere((order, ahead) -> {
+        CHECK.sentence("promise 13: 2: for 9 the strip", () -> everywhere((order, ahead) -> {
             for (int bad = 0; bad < 31; bad += 5) {
                 Draft d = file(order, ahead, strips(31, 1, 31, 31));
                 for (int i = 0; i < 31; i++) {
@@ -568,7 +579,8 @@ public final class FaultEdgesTest {
             long[] wrongTag = {100, LONG, 1, 1};
             faulty("4 of an entry ahead of 3 of the next", 4, 257, wrongType, wrongTag);
             faulty("5 of an entry ahead of 3 of the next", 5, 273, wrongPlace, wrongTag);
-            faulty("5 of an entry ahead of 4 of the next", 5, 273, wrongPlace, Draft.one(279, 9, 1));
+            faulty("5 of an entry ahead of 4 of the next", 5, 273, wrongPlace,
+                    Draft.one(279, 9, 1));
             faulty("4 of an entry ahead of 5 of the next", 4, 257, wrongType, wrongPlace);
             faulty("3 of an entry ahead of its 4", 3, 257, Draft.one(257, LONG, 1), wrongType);
             faulty("4 of an entry ahead of its 5", 4, 282, new long[] {282, 5, 2, WIDEST});
@@ -577,7 +589,8 @@ public final class FaultEdgesTest {
             faulty("3 of the last ahead of 7", 3, 1, Draft.one(256, LONG, 0), PLAIN[1], PLAIN[2],
                     PLAIN[3], Draft.one(1, LONG, 0));
             faulty("6 ahead of 7", 6, 279, Draft.one(256, LONG, 0), PLAIN[1], PLAIN[2]);
-            faulty("7 ahead of 8", 7, 296, Draft.with(strips(5, 1, 3, 3), Draft.one(296, SHORT, 0)));
+            faulty("7 ahead of 8", 7, 296,
+                    Draft.with(strips(5, 1, 3, 3), Draft.one(296, SHORT, 0)));
             faulty("8 ahead of 9", 8, 279, strips(5, 1, 5, 4));
         });
         CHECK.sentence("pages are gone through one by one", () -> {
@@ -599,23 +612,23 @@ public final class FaultEdgesTest {
     // ---- promise 13
 
     private static void promise13() {
-        CHECK.sentence("13: NONE if there was no FAULT", () -> {
+        CHECK.sentence("promise 13: NONE if there was no FAULT", () -> {
             PictureFile x = file(77, 1, PLAIN).load();
             for (int round = 0; round < 2; round++) {
                 for (int w = -1; w <= 3; w++) {
-                    CHECK.due("round " + round + ": fault(" + w + ")", x.fault(w), PictureFile.NONE);
+                    CHECK.due("round " + round + ": " + w, x.fault(w), PictureFile.NONE);
                 }
                 x.read();
             }
         });
-        CHECK.sentence("13: or no such w", () -> {
+        CHECK.sentence("promise 13: or no such w", () -> {
             PictureFile x = file(77, 1, Draft.plain(7, 0)).load();
             CHECK.faultDue("9", x, 9, 1, 273, 0);
             for (int w : new int[] {-1, -2, 3, 4, 256, 65536, LEAST, MOST}) {
                 CHECK.due("fault(" + w + ")", x.fault(w), PictureFile.NONE);
             }
         });
-        CHECK.sentence("13: Where the FAULT of the latest read() was", () -> {
+        CHECK.sentence("promise 13: Where the FAULT of the latest read() was", () -> {
             PictureFile x = file(73, 3, strips(31, 1, 31, 31)).load();
             x.poke(400, 8);
             CHECK.faultDue("9", x, 9, 3, 273, 1);
@@ -634,7 +647,7 @@ public final class FaultEdgesTest {
             x.begin(77);
             CHECK.stateRefused("a refused read is none", x, x::read);
         });
-        CHECK.sentence("13: 0 for others", () -> {
+        CHECK.sentence("promise 13: 0 for others", () -> {
             CHECK.faultDue("1", new PictureFile(), 1, 0, 0, 0);
             CHECK.faultDue("2", linked(77, 3, 1).load(), 2, 3, 0, 0);
             faulty("2: the strip", 4, 273, with(Draft.one(273, 9, 0)));

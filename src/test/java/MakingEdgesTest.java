@@ -47,7 +47,7 @@ public final class MakingEdgesTest {
     // ---- promise 6
 
     private static void begin() {
-        CHECK.sentence("6: A new file is being made", () -> {
+        CHECK.sentence("promise 6: A new file is being made", () -> {
             for (Step s : Step.values()) {
                 PictureFile x = s.reach(73);
                 x.begin(73);
@@ -57,8 +57,8 @@ public final class MakingEdgesTest {
                 CHECK.looks(s + ": begun", x, 8, 1, 0, 0, 0, 0, 0, 0);
             }
         });
-        CHECK.sentence("6: in place of all there is", MakingEdgesTest::beginInPlaceOfAll);
-        CHECK.sentence("6: IllegalArgumentException if order is not 73 or 77", () -> {
+        CHECK.sentence("promise 6: in place of all there is", MakingEdgesTest::beginInPlaceOfAll);
+        CHECK.sentence("promise 6: IllegalArgumentException if order is not 73 or 77", () -> {
             int[] wrong = {0, 72, 74, 75, 76, 78, -73, -77, 73 + 256, 77 + 65536, LEAST, MOST};
             for (Step s : Step.values()) {
                 PictureFile x = s.reach(77);
@@ -94,7 +94,7 @@ public final class MakingEdgesTest {
     // ---- promise 7
 
     private static void page() {
-        CHECK.sentence("7: A page is begun: how many strips it is to have", () -> {
+        CHECK.sentence("promise 7: A page is begun: how many strips it is to have", () -> {
             int[][] pages = {
                 {1, 1, 1}, {2, 2, 1}, {2, 1, 2}, {3, 2, 2}, {4, 2, 2}, {5, 2, 3}, {512, 1, 512},
                 {513, 2, 257}, {20000, 20000, 1}, {20000, 19999, 2}, {20000, 10000, 2},
@@ -106,7 +106,7 @@ public final class MakingEdgesTest {
                 CHECK.looks("page " + Arrays.toString(p), x, 8, 1, 1, 0, p[2], 0);
             }
         });
-        CHECK.sentence("7: IllegalStateException if no file is being made, a page is", () -> {
+        CHECK.sentence("promise 7: IllegalStateException if no file is being made, a page is", () -> {
             for (Step s : Step.values()) {
                 PictureFile x = s.reach(73);
                 if (!s.making() || s.onPage()) {
@@ -119,7 +119,7 @@ public final class MakingEdgesTest {
             none.end();
             CHECK.stateRefused("behind a file of no pages", none, () -> none.page(1, 1, 1, 1, 1));
         });
-        CHECK.sentence("7: IllegalStateException if .. there are 40", () -> {
+        CHECK.sentence("promise 7: IllegalStateException if .. there are 40", () -> {
             PictureFile x = begun();
             emptyPages(x, 39);
             CHECK.due("the 40th", x.page(1, 1, 1, 1, 1), 1);
@@ -128,7 +128,7 @@ public final class MakingEdgesTest {
             CHECK.stateRefused("the 41st", x, () -> x.page(1, 1, 1, 1, 1));
             CHECK.due("forty", x.end(), 40);
         });
-        CHECK.sentence("7: Of several exceptions that hold the first one listed is thrown", () -> {
+        CHECK.sentence("promise 7: Of several exceptions that hold the first one listed is thrown", () -> {
             PictureFile forty = begun();
             emptyPages(forty, 40);
             CHECK.stateRefused("the 41st, wrong", forty, () -> forty.page(0, 0, 0, 0, 0));
@@ -145,14 +145,14 @@ public final class MakingEdgesTest {
     }
 
     private static void pageArguments() {
-        CHECK.sentence("7: IllegalArgumentException if width .. is not 1 .. 20000", () -> {
+        CHECK.sentence("promise 7: IllegalArgumentException if width .. is not 1 .. 20000", () -> {
             for (int v : new int[] {0, -1, 20001, 65537, LEAST, MOST}) {
                 pageRefused(v, 1, 1, 1, 1);
             }
             pageTaken(1, 1, 1, 1, 1);
             pageTaken(20000, 1, 1, 1, 1);
         });
-        CHECK.sentence("7: IllegalArgumentException if .. height is not 1 .. 20000", () -> {
+        CHECK.sentence("promise 7: IllegalArgumentException if .. height is not 1 .. 20000", () -> {
             for (int v : new int[] {0, -1, 20001, 20002, 65537, LEAST, MOST}) {
                 pageRefused(1, v, 1, 1, 1);
                 pageRefused(1, v, 20000, 1, 1);
@@ -161,7 +161,7 @@ public final class MakingEdgesTest {
             pageTaken(1, 1, 1, 1, 1);
             pageTaken(1, 20000, 20000, 1, 1);
         });
-        CHECK.sentence("7: rows not 1 .. height", () -> {
+        CHECK.sentence("promise 7: rows not 1 .. height", () -> {
             for (int height : new int[] {1, 2, 500, 20000}) {
                 for (int v : new int[] {0, -1, -height, height + 1, LEAST, MOST}) {
                     pageRefused(1, height, v, 1, 1);
@@ -170,7 +170,7 @@ public final class MakingEdgesTest {
             }
             pageTaken(1, 500, 1, 1, 1);
         });
-        CHECK.sentence("7: there would be more than 512 strips", () -> {
+        CHECK.sentence("promise 7: there would be more than 512 strips", () -> {
             int[][] wrong = {{513, 1}, {1025, 2}, {20000, 1}, {20000, 39}, {1537, 3}};
             for (int[] w : wrong) {
                 pageRefused(1, w[0], w[1], 1, 1);
@@ -180,7 +180,7 @@ public final class MakingEdgesTest {
                 pageTaken(1, r[0], r[1], 1, 1);
             }
         });
-        CHECK.sentence("7: or a fineness is not 1 .. 10000", () -> {
+        CHECK.sentence("promise 7: or a fineness is not 1 .. 10000", () -> {
             for (int v : new int[] {0, -1, 10001, 65537, LEAST, MOST}) {
                 pageRefused(1, 1, 1, v, 1);
                 pageRefused(1, 1, 1, 1, v);
@@ -216,7 +216,7 @@ public final class MakingEdgesTest {
     // ---- promise 8
 
     private static void put() {
-        CHECK.sentence("8: The n lowest bytes of part, the highest first", () -> {
+        CHECK.sentence("promise 8: The n lowest bytes of part, the highest first", () -> {
             long part = 0xF1F2F3F4F5F6F7F8L;
             for (int order : ORDERS) {
                 for (int n = 1; n <= 8; n++) {
@@ -227,7 +227,7 @@ public final class MakingEdgesTest {
                 }
             }
         });
-        CHECK.sentence("8: false if n is not 1 .. 8", () -> {
+        CHECK.sentence("promise 8: false if n is not 1 .. 8", () -> {
             for (Step s : Step.values()) {
                 PictureFile x = s.reach(77);
                 for (int n : new int[] {0, 9, -1, -8, 257, 264, LEAST, LEAST + 1, MOST}) {
@@ -235,7 +235,7 @@ public final class MakingEdgesTest {
                 }
             }
         });
-        CHECK.sentence("8: no page is being made", () -> {
+        CHECK.sentence("promise 8: no page is being made", () -> {
             for (Step s : Step.values()) {
                 PictureFile x = s.reach(73);
                 if (!s.onPage()) {
@@ -245,7 +245,7 @@ public final class MakingEdgesTest {
                 }
             }
         });
-        CHECK.sentence("8: it has all its strips", () -> {
+        CHECK.sentence("promise 8: it has all its strips", () -> {
             for (int n : new int[] {1, 2, 512}) {
                 PictureFile x = onPage(n);
                 strips(x, n - 1);
@@ -267,7 +267,7 @@ public final class MakingEdgesTest {
     }
 
     private static void putLimits() {
-        CHECK.sentence("8: or the file would have more than 60000 bytes then", () -> {
+        CHECK.sentence("promise 8: or the file would have more than 60000 bytes then", () -> {
             for (int n = 1; n <= 8; n++) {
                 int parts = n;
                 PictureFile fits = filledTo(60000 - n);
@@ -278,7 +278,7 @@ public final class MakingEdgesTest {
                 CHECK.refused("one of " + n + " too many", full, () -> full.put(7, parts));
             }
         });
-        CHECK.sentence("8: with the byte 0 ahead of the strip's first one, where its place would be"
+        CHECK.sentence("promise 8: with the byte 0 ahead of the strip's first one, where its place would be"
                 + " odd", () -> {
             PictureFile odd = filledTo(59991);
             odd.strip();
@@ -297,7 +297,7 @@ public final class MakingEdgesTest {
             even.strip();
             CHECK.due("no byte 0 at an even place", even.put(-1, 8), true);
         });
-        CHECK.sentence("8: an empty one has it, too", () -> {
+        CHECK.sentence("promise 8: an empty one has it, too", () -> {
             PictureFile x = onPage(3);
             x.put(9, 1);
             x.strip();
@@ -315,7 +315,7 @@ public final class MakingEdgesTest {
     // ---- promise 9
 
     private static void strip() {
-        CHECK.sentence("9: The strip is at its end (it can be empty)", () -> {
+        CHECK.sentence("promise 9: The strip is at its end (it can be empty)", () -> {
             PictureFile x = onPage(3);
             x.strip();
             x.put(5, 2);
@@ -330,7 +330,7 @@ public final class MakingEdgesTest {
                 CHECK.due("length " + i, x.where(0, i, 1), want[i][1]);
             }
         });
-        CHECK.sentence("9: how many are still to come", () -> {
+        CHECK.sentence("promise 9: how many are still to come", () -> {
             for (int n : new int[] {1, 2, 16, 17, 512}) {
                 PictureFile x = onPage(n);
                 for (int i = n - 1; i >= 0; i--) {
@@ -340,7 +340,7 @@ public final class MakingEdgesTest {
                 }
             }
         });
-        CHECK.sentence("9: IllegalStateException if no page is being made", () -> {
+        CHECK.sentence("promise 9: IllegalStateException if no page is being made", () -> {
             for (Step s : Step.values()) {
                 PictureFile x = s.reach(73);
                 if (!s.onPage()) {
@@ -350,7 +350,7 @@ public final class MakingEdgesTest {
                 }
             }
         });
-        CHECK.sentence("9: IllegalStateException if .. it has all its strips", () -> {
+        CHECK.sentence("promise 9: IllegalStateException if .. it has all its strips", () -> {
             for (int n : new int[] {1, 2, 512}) {
                 PictureFile x = onPage(n);
                 strips(x, n);
@@ -363,7 +363,7 @@ public final class MakingEdgesTest {
     // ---- promise 10
 
     private static void close() {
-        CHECK.sentence("10: The page is at its end: how many bytes the file has", () -> {
+        CHECK.sentence("promise 10: The page is at its end: how many bytes the file has", () -> {
             for (int n : new int[] {1, 2, 3, 512}) {
                 PictureFile x = onPage(n);
                 strips(x, n);
@@ -372,7 +372,7 @@ public final class MakingEdgesTest {
                 CHECK.looks("closed", x, 8 + lists + 142, 1, 0, 1, 0, 0);
             }
         });
-        CHECK.sentence("10: IllegalStateException if no page is being made", () -> {
+        CHECK.sentence("promise 10: IllegalStateException if no page is being made", () -> {
             for (Step s : Step.values()) {
                 PictureFile x = s.reach(77);
                 if (!s.onPage()) {
@@ -380,7 +380,7 @@ public final class MakingEdgesTest {
                 }
             }
         });
-        CHECK.sentence("10: it has not all its strips", () -> {
+        CHECK.sentence("promise 10: it has not all its strips", () -> {
             for (int n : new int[] {1, 2, 512}) {
                 PictureFile x = onPage(n);
                 CHECK.stateRefused("none of " + n, x, x::close);
@@ -392,11 +392,11 @@ public final class MakingEdgesTest {
                 CHECK.due("all of " + n, x.close() > 8, true);
             }
         });
-        CHECK.sentence("10: or the file would have more than 65536 bytes",
+        CHECK.sentence("promise 10: or the file would have more than 65536 bytes",
                 MakingEdgesTest::closeUpToTheLastByte);
     }
 
-    /** A page of so many strips that is to be closed behind others, at 65536 bytes and more or less. */
+    /** Behind others a page that is to be closed, with 65536 bytes then, and some more or less. */
     private static PictureFile readyToClose(int strips, int pagesAhead, int more) {
         int lists = strips == 1 ? 0 : 8 * strips;
         PictureFile x = filledTo(65536 - 142 - lists - 142 * pagesAhead - 142 - 24 + more);
@@ -431,7 +431,7 @@ public final class MakingEdgesTest {
     // ---- promise 11
 
     private static void end() {
-        CHECK.sentence("11: The file is made: how many pages", () -> {
+        CHECK.sentence("promise 11: The file is made: how many pages", () -> {
             for (int n : new int[] {0, 1, 39, 40}) {
                 PictureFile x = begun();
                 emptyPages(x, n);
@@ -439,7 +439,7 @@ public final class MakingEdgesTest {
                 CHECK.looks("made", x, 8 + 142 * n, 0, 0, n, 0, 0);
             }
         });
-        CHECK.sentence("11: IllegalStateException if none is being made", () -> {
+        CHECK.sentence("promise 11: IllegalStateException if none is being made", () -> {
             for (Step s : Step.values()) {
                 PictureFile x = s.reach(73);
                 if (!s.making()) {
@@ -450,7 +450,7 @@ public final class MakingEdgesTest {
             twice.end();
             CHECK.stateRefused("twice", twice, twice::end);
         });
-        CHECK.sentence("11: IllegalStateException if .. a page is", () -> {
+        CHECK.sentence("promise 11: IllegalStateException if .. a page is", () -> {
             for (Step s : Step.values()) {
                 PictureFile x = s.reach(73);
                 if (s.onPage()) {

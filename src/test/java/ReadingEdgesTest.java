@@ -1,4 +1,4 @@
-/** Promises 12 and 14 to 17: each sentence that names a boundary case has a test of its own here. */
+/** Promises 12 and 14 to 17: each sentence that names a boundary case has a test of its own. */
 public final class ReadingEdgesTest {
     private static final Check CHECK = new Check();
     private static final int LEAST = Integer.MIN_VALUE;
@@ -30,7 +30,7 @@ public final class ReadingEdgesTest {
     // ---- promise 12
 
     private static void read() {
-        CHECK.sentence("12: The file is READ: how many pages it has", () -> {
+        CHECK.sentence("promise 12: The file is READ: how many pages it has", () -> {
             for (int order : ORDERS) {
                 for (int n : new int[] {1, 2, 39, 40}) {
                     PictureFile x = Step.BEGUN.reach(order);
@@ -48,7 +48,7 @@ public final class ReadingEdgesTest {
                 }
             }
         });
-        CHECK.sentence("12: less the FAULT, if there is one (then there are none)", () -> {
+        CHECK.sentence("promise 12: less the FAULT, if there is one (then there are none)", () -> {
             for (int order : ORDERS) {
                 PictureFile x = made(order);
                 x.cut(x.look(0) - 1);
@@ -62,7 +62,7 @@ public final class ReadingEdgesTest {
                 CHECK.faultDue("an empty file", x, 1, 0, 0, 0);
             }
         });
-        CHECK.sentence("12: IllegalStateException if a file is being made", () -> {
+        CHECK.sentence("promise 12: IllegalStateException if a file is being made", () -> {
             for (Step s : Step.values()) {
                 PictureFile x = s.reach(77);
                 if (s.making()) {
@@ -91,7 +91,7 @@ public final class ReadingEdgesTest {
     }
 
     private static void whatWasRead() {
-        CHECK.sentence("12: (What was read stays, when the file changes later, but for its bytes.)",
+        CHECK.sentence("promise 12: (What was read stays, when the file changes later, but for its bytes.)",
                 () -> {
             PictureFile x = made(73);
             String want = whatIsRead(x);
@@ -109,7 +109,7 @@ public final class ReadingEdgesTest {
                 CHECK.dueText("behind " + s, whatIsRead(x), want);
             }
         });
-        CHECK.sentence("12: .. stays: the FAULT of the latest read() too", () -> {
+        CHECK.sentence("promise 12: .. stays: the FAULT of the latest read() too", () -> {
             PictureFile x = new PictureFile();
             x.read();
             for (Step s : Step.values()) {
@@ -126,7 +126,7 @@ public final class ReadingEdgesTest {
     // ---- promise 14
 
     private static void of() {
-        CHECK.sentence("14: 5: ROWS (at most HEIGHT)", () -> {
+        CHECK.sentence("promise 14: 5: ROWS (at most HEIGHT)", () -> {
             for (long rows : new long[] {1, 3, 4, 5, 65535, 65536, 1L << 31, WIDEST}) {
                 int n = rows == 1 ? 4 : rows == 3 ? 2 : 1;
                 long[][] e = Draft.with(Draft.plain(8, 0), Draft.one(278, LONG, rows));
@@ -142,7 +142,7 @@ public final class ReadingEdgesTest {
                 CHECK.due("strips", x.of(0, 6), n);
             }
         });
-        CHECK.sentence("14: 8 .. 11: the numbers of FINENESS", () -> {
+        CHECK.sentence("promise 14: 8 .. 11: the numbers of FINENESS", () -> {
             for (int order : ORDERS) {
                 long[][] e = Draft.with(Draft.plain(8, 0), Draft.one(282, 5, 100));
                 e = Draft.with(e, Draft.one(283, 5, 108));
@@ -156,14 +156,14 @@ public final class ReadingEdgesTest {
                 CHECK.due("11", x.of(0, 11), WIDEST);
             }
         });
-        CHECK.sentence("14: 12: the place of its directory", () -> {
+        CHECK.sentence("promise 14: 12: the place of its directory", () -> {
             Draft d = new Draft(73, 200).directory(200, 8, Draft.plain(8, 0));
             PictureFile x = d.directory(8, 0, Draft.plain(8, 0)).load();
             CHECK.due("read", x.read(), 2);
             CHECK.due("the first one's", x.of(0, 12), 200);
             CHECK.due("the second one's", x.of(1, 12), 8);
         });
-        CHECK.sentence("14: IndexOutOfBoundsException if there is none such", () -> {
+        CHECK.sentence("promise 14: IndexOutOfBoundsException if there is none such", () -> {
             PictureFile x = made(77);
             CHECK.due("the last page", x.of(1, 0), 20000);
             CHECK.indexRefused("page 2", x, () -> x.of(2, 0));
@@ -171,7 +171,7 @@ public final class ReadingEdgesTest {
                 CHECK.indexRefused("page " + page, x, () -> x.of(page, 0));
             }
         });
-        CHECK.sentence("14: or no such w", () -> {
+        CHECK.sentence("promise 14: or no such w", () -> {
             PictureFile x = made(77);
             CHECK.due("the last w", x.of(1, 12), 200);
             for (int page = 0; page < 2; page++) {
@@ -188,7 +188,7 @@ public final class ReadingEdgesTest {
     // ---- promise 15
 
     private static void where() {
-        CHECK.sentence("15: Of a strip: w = 0: its place, 1: its length", () -> {
+        CHECK.sentence("promise 15: Of a strip: w = 0: its place, 1: its length", () -> {
             for (int order : ORDERS) {
                 PictureFile x = made(order);
                 int[][] want = {{0, 0, 8, 5}, {0, 1, 14, 0}, {0, 2, 14, 3}, {1, 0, 184, 0}};
@@ -198,7 +198,7 @@ public final class ReadingEdgesTest {
                 }
             }
         });
-        CHECK.sentence("15: IndexOutOfBoundsException if there is none such", () -> {
+        CHECK.sentence("promise 15: IndexOutOfBoundsException if there is none such", () -> {
             PictureFile x = made(73);
             CHECK.indexRefused("strip 3 of 3", x, () -> x.where(0, 3, 0));
             CHECK.indexRefused("strip 1 of 1", x, () -> x.where(1, 1, 0));
@@ -209,7 +209,7 @@ public final class ReadingEdgesTest {
                 CHECK.indexRefused("strip " + far, x, () -> x.where(1, far, 1));
             }
         });
-        CHECK.sentence("15: or no such w", () -> {
+        CHECK.sentence("promise 15: or no such w", () -> {
             PictureFile x = made(73);
             CHECK.indexRefused("w 2", x, () -> x.where(0, 0, 2));
             CHECK.indexRefused("w 3", x, () -> x.where(0, 1, 3));
@@ -223,7 +223,7 @@ public final class ReadingEdgesTest {
     // ---- promise 16
 
     private static void dots() {
-        CHECK.sentence("16: Byte k of a strip, as the file is now", () -> {
+        CHECK.sentence("promise 16: Byte k of a strip, as the file is now", () -> {
             PictureFile x = made(73);
             int[] first = {1, 2, 3, 4, 5};
             for (int k = 0; k < 5; k++) {
@@ -239,7 +239,7 @@ public final class ReadingEdgesTest {
             x.put(0x7172, 2);
             CHECK.due("of a file that is being made", x.dots(0, 0, 1), 0x72);
         });
-        CHECK.sentence("16: IndexOutOfBoundsException if there is none such", () -> {
+        CHECK.sentence("promise 16: IndexOutOfBoundsException if there is none such", () -> {
             PictureFile x = made(77);
             CHECK.indexRefused("behind the strip", x, () -> x.dots(0, 0, 5));
             CHECK.indexRefused("ahead of it", x, () -> x.dots(0, 2, -1));
@@ -253,7 +253,7 @@ public final class ReadingEdgesTest {
                 CHECK.indexRefused("byte " + far, x, () -> x.dots(0, 0, far));
             }
         });
-        CHECK.sentence("16: .. none such, as the file is now: a byte that was cut", () -> {
+        CHECK.sentence("promise 16: .. none such, as the file is now: a byte that was cut", () -> {
             PictureFile x = made(77);
             x.cut(13);
             CHECK.due("the last one that stayed", x.dots(0, 0, 4), 5);
@@ -266,7 +266,7 @@ public final class ReadingEdgesTest {
             x.begin(77);
             CHECK.indexRefused("a new file has none", x, () -> x.dots(0, 0, 0));
         });
-        CHECK.sentence("16: the strip that ends with the file", () -> {
+        CHECK.sentence("promise 16: the strip that ends with the file", () -> {
             Draft d = new Draft(77, 8).directory(8, 0, Draft.plain(62, 3)).at(62, 0x8090A0, 3);
             PictureFile x = d.load();
             CHECK.due("read", x.read(), 1);
@@ -280,14 +280,15 @@ public final class ReadingEdgesTest {
     // ---- promise 17
 
     private static void look() {
-        CHECK.sentence("17: 0: bytes of the file .. 5: bytes of the strip that is being made", () -> {
+        CHECK.sentence("promise 17: 0: bytes of the file .. 5: bytes of the strip that is being made",
+                () -> {
             for (int order : ORDERS) {
                 for (Step s : Step.values()) {
                     CHECK.looks("" + s, s.reach(order), s.looks());
                 }
             }
         });
-        CHECK.sentence("17: 3: pages made (of the file that is being made, or was last)", () -> {
+        CHECK.sentence("promise 17: 3: pages made (of the file that is being made, or was last)", () -> {
             PictureFile x = Step.MADE.reach(77);
             x.cut(0);
             x.give(1, 1);
@@ -299,7 +300,7 @@ public final class ReadingEdgesTest {
             x.end();
             CHECK.due("of the one that was last", x.look(3), 0);
         });
-        CHECK.sentence("17: 6: pages read, 7: the order of the file read (0 if there was a FAULT or"
+        CHECK.sentence("promise 17: 6: pages read, 7: the order of the file read (0 if there was a FAULT or"
                 + " nothing was read)", () -> {
             for (int order : ORDERS) {
                 PictureFile x = Step.MADE.reach(order);
@@ -312,7 +313,7 @@ public final class ReadingEdgesTest {
                 CHECK.looks("a fault", x, 326, 0, 0, 2, 0, 0, 0, 0);
             }
         });
-        CHECK.sentence("17: NONE for any other which", () -> {
+        CHECK.sentence("promise 17: NONE for any other which", () -> {
             for (Step s : Step.values()) {
                 PictureFile x = s.reach(77);
                 for (int which : new int[] {-1, 8, 9, 256, 65536, 1 << 30, LEAST, MOST}) {
